@@ -18,6 +18,7 @@ public final class PartedWebs {
     private static final int MOST_PHASES = MOST_PLACES - 1;
     private static final int MOST_PAIRS = MOST_PLACES * (MOST_PLACES - 1) / 2;
     private static final int MOST_SETS = 1 << MOST_PLACES;
+    private static final int MOST_PARTINGS = MOST_SETS / 2 - 1;
     private static final int MOST_WEIGHT = 99;
     private static final int MOST_FAIR_PLACES = 5;
     private static final int MOST_STATES = 4;
@@ -458,7 +459,7 @@ public final class PartedWebs {
         }
 
         void dropPlace(int place) {
-            // what moves comes from behind, and each weight is read before its row is written over
+            // a weight moves towards the front alone, so none is written over before it has moved
             for (int one = 0; one < places - 1; one++) {
                 for (int other = 0; other < one; other++) {
                     int oneNow = one < place ? one : one + 1;
@@ -881,10 +882,10 @@ public final class PartedWebs {
             places = 0;
             end = 0;
             weights = new int[MOST_SETS];
-            pulls = new int[MOST_SETS];
+            pulls = new int[MOST_SETS / 2];
             leastWeight = 0;
             leastCount = 0;
-            leastSets = new int[MOST_SETS];
+            leastSets = new int[MOST_PARTINGS];
             tightCount = 0;
             tightPairs = new int[MOST_PAIRS];
         }
@@ -900,12 +901,12 @@ public final class PartedWebs {
             findTight(web);
         }
 
-        /** Tells how heavily the place is tied to each set of places from 1 to the one below it. */
+        /** Measures how heavily the place is tied to each set of lower places without the place 0. */
         private void measurePulls(Web web, int place) {
             for (int lower = 1; lower < place; lower++) {
                 int weight = web.tieOf(lower, place);
                 for (int set = 0; set < 1 << lower; set += 2) {
-                    pulls[set | 1 << lower] = pulls[set] + weight;
+                    pulls[set | (1 << lower)] = pulls[set] + weight;
                 }
             }
         }
@@ -914,7 +915,7 @@ public final class PartedWebs {
             int all = web.weightsOf(place);
             for (int set = 0; set < 1 << place; set += 2) {
                 // the ties into the set were cut without the place, and are cut no more with it
-                weights[set | 1 << place] = weights[set] + all - 2 * pulls[set];
+                weights[set | (1 << place)] = weights[set] + all - 2 * pulls[set];
             }
         }
 

@@ -145,6 +145,14 @@ public final class PlacesTest {
         checks.due("join(1, 0)", 4, x.join(1, 0));
         checks.same("sums of 198 and less", "4 start 0 fair 4: ab99 ac1 ad99 cd5", Webs.state(x));
 
+        // the tie of both is no tie to another place
+        x = Webs.of(4, "ab7,ac1,bd2");
+        checks.due("join(0, 1)", 3, x.join(0, 1));
+        checks.due("grow()", 3, x.grow());
+        checks.same("after it", "4 start 0 fair 1: ab1 ac2", Webs.state(x));
+        checks.due("the weights of a", 3, x.place(0, 0));
+        checks.due("the neighbours of a", 6, x.place(0, 1));
+
         String before = Webs.all(x);
         checks.due("join(0, 4)", -1, x.join(0, 4));
         checks.due("join(4, 0)", -1, x.join(4, 0));

@@ -28,6 +28,8 @@ public final class TellingTest {
         tight();
         count();
         countOfParts();
+        askedFirst();
+        askedAfterAChange();
         nothingIsChanged();
         checks.end();
     }
@@ -387,6 +389,9 @@ public final class TellingTest {
             checks.due("wouldBe(" + place + ", 0, -1)", -1, x.wouldBe(place, 0, -1));
         }
         checks.same("nothing has changed", before, Webs.all(x));
+        x = Webs.of(4, "ab5,cd7");
+        checks.due("wouldBe(0, 1, 99) of two parts", 0, x.wouldBe(0, 1, 99));
+        checks.due("wouldBe(1, 2, 3) that makes them one", 3, x.wouldBe(1, 2, 3));
         x = Webs.of(2, "ab4");
         checks.due("wouldBe(0, 1, 99)", 99, x.wouldBe(0, 1, 99));
         checks.due("wouldBe(0, 1, 0)", 0, x.wouldBe(0, 1, 0));
@@ -467,6 +472,59 @@ public final class TellingTest {
         x.tie(0, 1, 99);
         checks.due("count(5)", 1, x.count(5));
         checks.due("count(5) of ten parts", 10, Webs.of(10, "").count(5));
+    }
+
+    /** Each answer does not rest on what was asked before. */
+    private static void askedFirst() {
+        checks.part("promises 15 to 24 asked first");
+        checks.due("place(5, 3)", 1, paper().place(5, 3));
+        checks.due("place(5, 4)", 5, paper().place(5, 4));
+        checks.due("place(4, 5)", 5, paper().place(4, 5));
+        checks.due("phase(4, 0)", 204, paper().phase(4, 0));
+        checks.due("phase(4, 1)", 4, paper().phase(4, 1));
+        checks.due("phase(4, 2)", 2, paper().phase(4, 2));
+        checks.due("phase(4, 3)", 5, paper().phase(4, 3));
+        checks.due("phase(4, 4)", 236, paper().phase(4, 4));
+        checks.due("swallowed(3, 4, false)", 3, paper().swallowed(3, 4, false));
+        checks.due("swallowed(3, 4, true)", 7, paper().swallowed(3, 4, true));
+        checks.due("least(0)", 204, paper().least(0));
+        checks.due("least(1)", 4, paper().least(1));
+        checks.due("least(2)", 4, paper().least(2));
+        checks.due("least(3)", 204, paper().least(3));
+        checks.due("least(4)", 4, paper().least(4));
+        checks.due("leastOf(0)", 204, paper().leastOf(0));
+        checks.due("between(0, 7, 0)", 204, paper().between(0, 7, 0));
+        checks.due("between(0, 7, 1)", 4, paper().between(0, 7, 1));
+        checks.due("parting(204)", 4, paper().parting(204));
+        checks.due("wouldBe(1, 2, 0)", 1, paper().wouldBe(1, 2, 0));
+        checks.due("tight(1)", 56, paper().tight(1));
+        checks.due("count(3)", 1, paper().count(3));
+        checks.due("count(4)", 2, paper().count(4));
+        checks.due("count(8)", 127, paper().count(8));
+        checks.due("strengthen()", 12, paper().strengthen());
+    }
+
+    /** Nor does it rest on the web that was there before. */
+    private static void askedAfterAChange() {
+        PartedWebs x = paper();
+        checks.due("least(1)", 4, x.least(1));
+        checks.due("count(3)", 1, x.count(3));
+        x.tie(5, 6, 2);
+        checks.due("least(1) after tie(5, 6, 2)", 5, x.least(1));
+        checks.due("leastOf(0) after it", 128, x.leastOf(0));
+        x.undo();
+        checks.due("leastOf(0) after undo()", 204, x.leastOf(0));
+        checks.due("least(2) after undo()", 4, x.least(2));
+        x.set(0, 7);
+        checks.due("swallowed(0, 0, false) from h", 7, x.swallowed(0, 0, false));
+        checks.due("leastOf(0) from h", 204, x.leastOf(0));
+        x.remove(7);
+        checks.due("parting(128) after remove(7)", -2, x.parting(128));
+        checks.due("phase(6, 0) after remove(7)", -1, x.phase(6, 0));
+        checks.due("count(8) after remove(7)", 63, x.count(8));
+        x.grow();
+        checks.due("least(0) after grow()", 128, x.least(0));
+        checks.due("leastOf(1) after grow()", -5, x.leastOf(1));
     }
 
     private static void nothingIsChanged() {
