@@ -35,6 +35,10 @@ final class Checks {
         }
     }
 
+    int made() {
+        return made;
+    }
+
     int wrong() {
         return wrong;
     }

@@ -58,4 +58,30 @@ final class Webs {
     static String all(PartedWebs x) {
         return state(x) + " history " + x.count(9) + " text " + x.count(10);
     }
+
+    /** A web with a full history, a snapshot and a text besides, each of them with a state of its own. */
+    static PartedWebs laden(int places, String ties) {
+        PartedWebs x = of(places, ties);
+        x.set(0, 1);
+        x.keep();
+        x.set(0, 0);
+        x.set(1, 5);
+        x.set(1, 4);
+        x.set(1, 3);
+        x.set(1, 2);
+        x.set(1, 1);
+        type(x, "ab98,ab97");
+        return x;
+    }
+
+    /** All that an object holds, its history, snapshot and text too; the object is used up by it. */
+    static String whole(PartedWebs x) {
+        StringBuilder told = new StringBuilder(all(x));
+        for (int left = x.count(9); left > 0; left--) {
+            told.append("; undo ").append(x.undo()).append(": ").append(state(x));
+        }
+        told.append("; restore ").append(x.restore()).append(": ").append(state(x));
+        told.append("; tieAll ").append(x.tieAll()).append(": ").append(state(x));
+        return told.toString();
+    }
 }
