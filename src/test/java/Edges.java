@@ -53,6 +53,14 @@ final class Edges {
         return failing;
     }
 
+    List<String> names() {
+        List<String> names = new ArrayList<>();
+        for (Edge edge : edges) {
+            names.add(edge.name());
+        }
+        return names;
+    }
+
     /** Returns the names of the edges whose words do not stand where they say, and of those that stand here twice. */
     List<String> misquoted(Path document) throws IOException {
         String text = Files.readString(document);

@@ -28,7 +28,8 @@ final class EdgesOfHistory {
                 checks.due("count(9) after " + weight + " acts", Math.min(weight, 4), x.count(9));
             }
         });
-        edges.add("HISTORY", "when one more is recorded, the oldest one is dropped", "the fifth act, and many", checks -> {
+        edges.add("HISTORY", "when one more is recorded, the oldest one is dropped",
+            "the fifth act, and many", checks -> {
             for (int acts : new int[] {5, 6, 9, 23}) {
                 PartedWebs x = new PartedWebs();
                 for (int weight = 1; weight <= acts; weight++) {
@@ -66,6 +67,10 @@ final class EdgesOfHistory {
             x.remove(0);
             x.undo();
             checks.same("ten places after undo()", "10 start 0 fair 1: aj9 ij8", Webs.state(x));
+            x.tie(9, 8, 1);
+            x.undo();
+            checks.due("weight(8, 9) after undo()", 8, x.weight(8, 9));
+            checks.due("weight(9, 8) after undo()", 8, x.weight(9, 8));
             x = Webs.of(2, "ab7");
             x.grow();
             x.undo();
@@ -79,6 +84,10 @@ final class EdgesOfHistory {
             }
         });
         edges.add("promise 11", "NONE if the history is empty.", "at first, and when all is taken back", checks -> {
+            PartedWebs one = new PartedWebs();
+            one.grow();
+            checks.due("undo() of one state", 0, one.undo());
+            checks.due("undo() then", Edges.NONE, one.undo());
             Edges.refused(checks, "undo() of a new object", Edges.NONE, PartedWebs::new, x -> x.undo());
             Edges.refused(checks, "undo() of an empty history", Edges.NONE, EdgesOfHistory::emptied, x -> x.undo());
         });
@@ -162,6 +171,10 @@ final class EdgesOfHistory {
                 x.remove(9);
                 x.undo();
                 checks.same("after undo()", "10 start 9 fair 5: ab1 ij2", Webs.state(x));
+                x.tie(8, 9, 3);
+                x.undo();
+                checks.due("weight(8, 9) after undo()", 2, x.weight(8, 9));
+                checks.due("weight(9, 8) after undo()", 2, x.weight(9, 8));
                 checks.due("count(10) after undo()", 3, x.count(10));
                 x.remove(9);
                 x.set(1, 2);
@@ -194,17 +207,18 @@ final class EdgesOfHistory {
     }
 
     private static void keep(Edges edges) {
-        edges.add("HISTORY", "There is one snapshot, empty at first.", "none, one, and another in its place", checks -> {
+        edges.add("HISTORY", "There is one snapshot, empty at first.",
+            "none, one, and another in its place", checks -> {
             PartedWebs x = Webs.of(4, "ab1");
             checks.due("restore() at first", Edges.NONE, x.restore());
             x.keep();
             x.tie(0, 1, 2);
             x.keep();
-            x.tie(0, 1, 3);
-            x.restore();
-            checks.due("weight(0, 1) after restore()", 2, x.weight(0, 1));
-            x.restore();
-            checks.due("weight(0, 1) after another restore()", 2, x.weight(0, 1));
+            for (int weight = 3; weight <= 5; weight++) {
+                x.tie(0, 1, weight);
+                checks.due("restore()", 4, x.restore());
+                checks.due("weight(0, 1) after restore()", 2, x.weight(0, 1));
+            }
         });
         edges.add("promise 12", "in place of the one that was", "a greater web and a smaller one", checks -> {
             PartedWebs x = Webs.of(10, "aj9,ij8,ab1");
@@ -280,18 +294,40 @@ final class EdgesOfHistory {
                 checks.due("least(5)", Edges.BAD_VALUE, x.least(5));
                 checks.due("least(3)", Edges.NONE, x.least(3));
             });
-        edges.add("ERRORS", "A call that returns an error or NONE changes nothing.", "one of each kind, one after the other",
+        edges.add("ERRORS", "Where several errors can apply, the order of the @return line is the order of the checks.",
+            "each two that can apply", checks -> {
+                PartedWebs x = Webs.of(2, "");
+                checks.due("remove(2)", Edges.UNKNOWN, x.remove(2));
+                checks.due("join(2, 2)", Edges.UNKNOWN, x.join(2, 2));
+                checks.due("join(1, 1)", Edges.BAD_VALUE, x.join(1, 1));
+                checks.due("tie(0, 2, 100)", Edges.UNKNOWN, x.tie(0, 2, 100));
+                checks.due("weight(2, 2)", Edges.UNKNOWN, x.weight(2, 2));
+                checks.due("place(2, 6)", Edges.UNKNOWN, x.place(2, 6));
+                checks.due("phase(1, 6)", Edges.UNKNOWN, x.phase(1, 6));
+                checks.due("swallowed(1, -1, true)", Edges.UNKNOWN, x.swallowed(1, -1, true));
+                checks.due("between(0, 2, 2)", Edges.UNKNOWN, x.between(0, 2, 2));
+                checks.due("wouldBe(0, 2, 100)", Edges.UNKNOWN, x.wouldBe(0, 2, 100));
+            });
+        edges.add("ERRORS", "A call that returns an error or NONE changes nothing.",
+            "one of each kind, one after the other",
             checks -> Edges.refused(checks, "the last of many calls", Edges.NONE, () -> Webs.laden(2, "ab99"),
                 EdgesOfHistory::manyRefused));
-        constant(edges, "`UNKNOWN = -1`", -1, PartedWebs.UNKNOWN);
-        constant(edges, "`BAD_VALUE = -2`", -2, PartedWebs.BAD_VALUE);
-        constant(edges, "`FULL = -3`", -3, PartedWebs.FULL);
-        constant(edges, "`NOT_POSSIBLE = -4`", -4, PartedWebs.NOT_POSSIBLE);
-        constant(edges, "`NONE = -5`", -5, PartedWebs.NONE);
+        constant(edges, "UNKNOWN", -1);
+        constant(edges, "BAD_VALUE", -2);
+        constant(edges, "FULL", -3);
+        constant(edges, "NOT_POSSIBLE", -4);
+        constant(edges, "NONE", -5);
     }
 
-    private static void constant(Edges edges, String words, int want, int got) {
-        edges.add("ERRORS", words, "the constant", checks -> checks.due(words, want, got));
+    private static void constant(Edges edges, String name, int want) {
+        edges.add("ERRORS", "`" + name + " = " + want + "`", "the constant", checks -> {
+            try {
+                // looked up by its name, since javac would write the number into this class
+                checks.due(name, want, PartedWebs.class.getField(name).getInt(null));
+            } catch (ReflectiveOperationException missing) {
+                checks.holds("a constant " + name, false);
+            }
+        });
     }
 
     private static int manyRefused(PartedWebs x) {
@@ -330,10 +366,10 @@ final class EdgesOfHistory {
                 }
                 checks.due("keep(), call 506", 10, x.keep());
                 checks.due("undo(), call 507", 3, x.undo());
-                checks.due("restore(), call 508", 10, x.restore());
-                checks.due("count(3), call 509", 255, x.count(3));
-                checks.due("least(2), call 510", 1, x.least(2));
-                checks.due("swallowed(8, 1, false), call 511", 1, x.swallowed(8, 1, false));
+                checks.due("weight(8, 9), call 508", 1, x.weight(8, 9));
+                checks.due("restore(), call 509", 10, x.restore());
+                checks.due("count(3), call 510", 255, x.count(3));
+                checks.due("least(2), call 511", 1, x.least(2));
                 checks.due("weight(8, 9), call 512", 2, x.weight(8, 9));
             });
     }

@@ -16,6 +16,7 @@ final class EdgesOfPartings {
         refusedBetween(edges);
         parting(edges);
         wouldBe(edges);
+        leastWeightOfWouldBe(edges);
         refusedWouldBe(edges);
         tight(edges);
         count(edges);
@@ -142,7 +143,8 @@ final class EdgesOfPartings {
     }
 
     private static void weight(Edges edges) {
-        edges.add("promise 14", "Returns the weight", "0 and 99, the first pair and the last one, either way", checks -> {
+        edges.add("promise 14", "Returns the weight",
+            "0 and 99, the first pair and the last one, either way", checks -> {
             PartedWebs x = Webs.of(10, "ij99,ab1");
             checks.due("weight(0, 1)", 1, x.weight(0, 1));
             checks.due("weight(1, 0)", 1, x.weight(1, 0));
@@ -225,6 +227,8 @@ final class EdgesOfPartings {
                 checks.due("place(8, 5)", 7, x.place(8, 5));
                 checks.due("place(0, 5)", 7, x.place(0, 5));
                 checks.due("place(7, 5)", 0, x.place(7, 5));
+                // of the phase 0 alone: the phase 1 has no third rank
+                checks.due("place(2, 5), the last rank", 3, Webs.of(3, "ab5,bc3").place(2, 5));
             });
     }
 
@@ -240,7 +244,7 @@ final class EdgesOfPartings {
                 }
             }
         });
-        edges.add("promise 15", "BAD_VALUE.", "neither 0 to 5", checks -> {
+        edges.add("promise 15", "BAD_VALUE.", "what is none of 0 to 5", checks -> {
             for (int what : Edges.outside(5)) {
                 Edges.refused(checks, "place(3, " + what + ")", Edges.BAD_VALUE, () -> Webs.laden(4, "ab7"),
                     x -> x.place(3, what));
@@ -345,7 +349,8 @@ final class EdgesOfPartings {
                 checks.due("parting(768)", 5, x.parting(768));
                 checks.due("parting(1022)", 12, x.parting(1022));
             });
-        edges.add("promise 21", "BAD_VALUE if it is none.", "the empty set, places that are not there, far out", checks -> {
+        edges.add("promise 21", "BAD_VALUE if it is none.",
+            "the empty set, places that are not there, far out", checks -> {
             int[] sets = {0, 1, 3, 15, 16, 17, 18, 30, 32, 1024, -1, -2, -8, -16, 256 + 2, 65536 + 2, (1 << 30) + 2,
                 Integer.MIN_VALUE, Integer.MIN_VALUE + 2, Integer.MAX_VALUE, Integer.MAX_VALUE - 1};
             for (int set : sets) {
@@ -384,6 +389,19 @@ final class EdgesOfPartings {
             });
     }
 
+    private static void leastWeightOfWouldBe(Edges edges) {
+        edges.add("promise 22", "Returns the least weight",
+            "0 of two parts, and of a parting that leaves both together", checks -> {
+                PartedWebs x = Webs.of(4, "ab5,cd7");
+                checks.due("wouldBe(0, 1, 99), {c, d} is least", 0, x.wouldBe(0, 1, 99));
+                checks.due("wouldBe(0, 1, 0), {b} too", 0, x.wouldBe(0, 1, 0));
+                checks.due("wouldBe(1, 2, 3) joins both parts", 3, x.wouldBe(1, 2, 3));
+                checks.due("wouldBe(1, 2, 99) joins both parts", 5, x.wouldBe(1, 2, 99));
+                x.set(1, 5);
+                checks.due("wouldBe(1, 2, 3), fair or not", 3, x.wouldBe(1, 2, 3));
+            });
+    }
+
     private static void refusedWouldBe(Edges edges) {
         edges.add("promise 22", "UNKNOWN (one or other)", "no such place, however far out, on either side", checks -> {
             for (int place : Edges.noPlaces(4)) {
@@ -417,7 +435,8 @@ final class EdgesOfPartings {
     }
 
     private static void tight(Edges edges) {
-        edges.add("promise 23", "by the lower place, then by the other one.", "pairs with a place in common, and without",
+        edges.add("promise 23", "by the lower place, then by the other one.",
+            "pairs with a place in common, and without",
             checks -> {
                 // {d, e, f} is the one least parting
                 PartedWebs x = Webs.of(6, "ab90,bc90,ac90,de90,ef90,df90,af1,bd1,ae1,ce1,cd1");
@@ -426,12 +445,18 @@ final class EdgesOfPartings {
                     checks.due("tight(" + rank + ")", due[rank], x.tight(rank));
                 }
             });
-        edges.add("promise 23", "Returns 10 times the lower place plus the other one", "the first pair and the last one",
+        edges.add("promise 23", "Returns 10 times the lower place plus the other one",
+            "the first pair and the last one",
             checks -> {
                 checks.due("tight(0) of a and b", 1, Webs.of(2, "ab5").tight(0));
                 checks.due("tight(0) of i and j", 89,
                     Webs.of(10, "ab9,bc9,cd9,de9,ef9,fg9,gh9,hi9,ij8").tight(0));
             });
+        edges.add("promise 23", "a rank, from 0", "the first and the last one of two", checks -> {
+            PartedWebs x = Webs.of(3, "ab1,ac1,bc3");
+            checks.due("tight(0)", 1, x.tight(0));
+            checks.due("tight(1)", 2, x.tight(1));
+        });
         edges.add("promise 23", "BAD_VALUE if rank is negative", "-1, and the least number there is", checks -> {
             for (int rank : new int[] {-1, -2, -45, Integer.MIN_VALUE}) {
                 Edges.refused(checks, "tight(" + rank + ")", Edges.BAD_VALUE, () -> Webs.laden(2, "ab7"),
@@ -463,7 +488,8 @@ final class EdgesOfPartings {
             checks.due("count(0)", 2, Webs.of(2, "").count(0));
             checks.due("count(0)", 10, Webs.of(10, "").count(0));
         });
-        edges.add("promise 24", "1 for ties (pairs with a weight above 0)", "none, weights of 0 and 1, and 45", checks -> {
+        edges.add("promise 24", "1 for ties (pairs with a weight above 0)",
+            "none, weights of 0 and 1, and 45", checks -> {
             checks.due("count(1) of none", 0, new PartedWebs().count(1));
             PartedWebs x = Webs.of(4, "ab1,cd99");
             checks.due("count(1) of two", 2, x.count(1));
@@ -538,7 +564,7 @@ final class EdgesOfPartings {
             }
             checks.due("count(10) of a full text", 60, x.count(10));
         });
-        edges.add("promise 24", "Returns the number; BAD_VALUE.", "neither 0 to 10", checks -> {
+        edges.add("promise 24", "Returns the number; BAD_VALUE.", "what is none of 0 to 10", checks -> {
             for (int what : Edges.outside(10)) {
                 Edges.refused(checks, "count(" + what + ")", Edges.BAD_VALUE, () -> Webs.laden(4, "ab7"),
                     x -> x.count(what));

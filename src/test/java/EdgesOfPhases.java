@@ -50,8 +50,14 @@ final class EdgesOfPhases {
                 checks.same("ten places", "0:0 1:0 2:0 3:0 4:0 5:0 6:0 7:0 8:0 9:0", order(Webs.of(10, ""), 0));
                 PartedWebs x = Webs.of(10, "ij99");
                 checks.same("ten places", "0:0 1:0 2:0 3:0 4:0 5:0 6:0 7:0 8:0 9:99", order(x, 0));
-                checks.same("ten places after all phases were run", "0:0 1:0 2:0 3:0 4:0 5:0 6:0 7:0 8:0 9:99",
+                checks.due("phase(0, 0), after all phases were run", 512, x.phase(0, 0));
+                checks.due("phase(0, 4), after all phases were run", 256 + 512, x.phase(0, 4));
+                checks.same("ten places, after all phases were run", "0:0 1:0 2:0 3:0 4:0 5:0 6:0 7:0 8:0 9:99",
                     order(x, 0));
+                PartedWebs y = from(1, 2, "ab7");
+                checks.due("phase(0, 0), a is the last", 2, y.phase(0, 0));
+                checks.due("phase(0, 0), after all phases were run", 2, y.phase(0, 0));
+                checks.same("two places from b, after all phases were run", "1:0 0:7", order(y, 0));
             });
     }
 
@@ -131,7 +137,8 @@ final class EdgesOfPhases {
     }
 
     private static void partings(Edges edges) {
-        edges.add("PHASES", "The parting of the phase is the last lump that was swallowed", "the last place, and a lump",
+        edges.add("PHASES", "The parting of the phase is the last lump that was swallowed",
+            "the last place, and a lump",
             checks -> {
                 PartedWebs x = Webs.of(10, "");
                 checks.due("phase(0, 0)", 512, x.phase(0, 0));
@@ -148,7 +155,8 @@ final class EdgesOfPhases {
                 checks.due("phase(1, 0)", 12, x.phase(1, 0));
                 checks.due("phase(2, 0)", 8, x.phase(2, 0));
             });
-        edges.add("PHASES", "its weight is the nearness of that lump.", "0, and the parting's weight otherwise", checks -> {
+        edges.add("PHASES", "its weight is the nearness of that lump.",
+            "0, and the parting's weight otherwise", checks -> {
             PartedWebs x = Webs.of(4, "");
             checks.due("phase(0, 1) without ties", 0, x.phase(0, 1));
             for (int start = 0; start < 5; start++) {
@@ -189,7 +197,7 @@ final class EdgesOfPhases {
             x.grow();
             checks.due("phase(2, 5) after grow()", 2, x.phase(2, 5));
         });
-        edges.add("promise 16", "BAD_VALUE.", "neither 0 to 5", checks -> {
+        edges.add("promise 16", "BAD_VALUE.", "what is none of 0 to 5", checks -> {
             for (int what : Edges.outside(5)) {
                 Edges.refused(checks, "phase(2, " + what + ")", Edges.BAD_VALUE, () -> Webs.laden(4, "ab7"),
                     x -> x.phase(2, what));
@@ -247,7 +255,8 @@ final class EdgesOfPhases {
                 }
             }
         });
-        edges.add("promise 17", "NONE if there are not so many lumps.", "the first rank behind the last lump", checks -> {
+        edges.add("promise 17", "NONE if there are not so many lumps.",
+            "the first rank behind the last lump", checks -> {
             for (int phase = 0; phase < 3; phase++) {
                 int asked = phase;
                 checks.holds("swallowed(" + phase + ", " + (3 - phase) + ", false)",
@@ -293,7 +302,8 @@ final class EdgesOfPhases {
     }
 
     private static void least(Edges edges) {
-        edges.add("promise 18", "(all by phases)", "of several least partings, not the first one by its set", checks -> {
+        edges.add("promise 18", "(all by phases)",
+            "of several least partings, not the first one by its set", checks -> {
             PartedWebs x = Webs.of(4, "ab2,bc2,cd2,ad2");
             checks.due("least(0)", 8, x.least(0));
             checks.due("least(3)", 2, x.least(3));
@@ -302,6 +312,19 @@ final class EdgesOfPhases {
             checks.due("least(1), though none is fair", 4, x.least(1));
             checks.due("least(2), though none is fair", 0, x.least(2));
         });
+        edges.add("promise 18", "0 for its set, 1 for its weight, 2 for the phase that tells it", "two places, and ten",
+            checks -> {
+                int[] due = {2, 99, 0, 2, 99};
+                PartedWebs x = Webs.of(2, "ab99");
+                for (int what = 0; what < 5; what++) {
+                    checks.due("least(" + what + ") of two places", due[what], x.least(what));
+                }
+                // the last of nine phases alone tells that a is tied to the others by 1
+                PartedWebs y = Webs.of(10, "ab1,bc9,cd9,de9,ef9,fg9,gh9,hi9,ij9");
+                checks.due("least(0) of ten places", 1022, y.least(0));
+                checks.due("least(1) of ten places", 1, y.least(1));
+                checks.due("least(2) of ten places", 8, y.least(2));
+            });
         edges.add("promise 18", "(NONE if there is no fair one)", "as many places as both parts need, and one fewer",
             checks -> {
                 for (int fair = 2; fair <= 5; fair++) {
@@ -317,7 +340,7 @@ final class EdgesOfPhases {
                     }
                 }
             });
-        edges.add("promise 18", "Returns the number; BAD_VALUE.", "neither 0 to 4", checks -> {
+        edges.add("promise 18", "Returns the number; BAD_VALUE.", "what is none of 0 to 4", checks -> {
             for (int what : Edges.outside(4)) {
                 Edges.refused(checks, "least(" + what + ")", Edges.BAD_VALUE, () -> Webs.laden(4, "ab7"),
                     x -> x.least(what));

@@ -306,6 +306,9 @@ final class EdgesOfPlaces {
             checks -> {
                 startAfterJoin(checks, 9, 7, 8, 8);
                 startAfterJoin(checks, 9, 0, 1, 8);
+                startAfterJoin(checks, 5, 0, 1, 4);
+                startAfterJoin(checks, 6, 5, 2, 5);
+                startAfterJoin(checks, 6, 8, 7, 6);
                 startAfterJoin(checks, 3, 3, 9, 3);
                 startAfterJoin(checks, 4, 3, 5, 4);
                 startAfterJoin(checks, 0, 8, 9, 0);

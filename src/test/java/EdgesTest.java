@@ -30,6 +30,10 @@ public final class EdgesTest {
         return all().failing();
     }
 
+    static List<String> names() {
+        return all().names();
+    }
+
     private static Edges all() {
         Edges edges = new Edges();
         EdgesOfPlaces.addTo(edges);

@@ -215,7 +215,7 @@ public final class TellingTest {
         checks.same("the order of phase 3", "2:0 0:0", order(x, 3));
         x = Webs.of(4, "ab2,ac2,ad1,cd1");
         checks.same("b ahead of c, though c is as near", "0:0 1:2 2:2 3:2", order(x, 0));
-        // the starting place is swallowed into a lump with a lower name: in phase 1 that lump begins
+        // b and a are one lump then, with the name 0: c is tied to it by the weights of both
         x = Webs.of(3, "bc5,ab3,ac1");
         x.set(0, 2);
         checks.same("from c", "2:0 1:5 0:4", order(x, 0));
